@@ -169,6 +169,8 @@ public final class PromisesTest {
         fault("p 1p 0;", 3);
         fault("pl 1;", 0);
         fault("lp 1;", 0);
+        fault("pa 1 0;", 0);
+        fault("pz 1 0;", 0);
         fault("a 1;", 0);
         fault("z 1;", 0);
         fault("P 1 0;", 0);
@@ -235,6 +237,10 @@ public final class PromisesTest {
         due("4: anew, DAY", x.now(0), 0);
         due("4: anew, SMOKE", x.now(3), 0);
         due("4: anew, LATE", x.now(4), 12);
+        x.smoke(2, 1);
+        write(x, "p 7 24;");
+        x.square();
+        due("4: anew, SMOKE of today", x.now(3), 0);
         due("4: anew, height", x.person(0, 0), 7);
         due("4: anew, cell", x.person(0, 1), 24);
         due("4: anew, others are none", x.person(1, 0), BAD);
@@ -562,6 +568,7 @@ public final class PromisesTest {
         due("17: the least", told("r 5 4;r 4 5;r 2 3;r 3 2;").round(), 2);
         due("17: one that leads there only", told("r 0 3;r 3 4;r 4 3;").round(), 3);
         due("17: six", told("r 1 2;r 2 3;r 3 4;r 4 5;r 5 6;r 6 1;").round(), 1);
+        due("17: act 0", told("r 7 0;r 0 7;").round(), 0);
         due("17: told again", told("r 0 1;r 0 1;").round(), NONE);
     }
 
@@ -596,6 +603,9 @@ public final class PromisesTest {
         due("19: none instead", x.nearer(30, 29), 1 << 3 | 1 << 4 | 1 << 7);
         due("19: the same in the end", x.nearer(30, 31), 0);
         due("19: the least", x.nearer(1, 0), 0);
+        SquareLate y = told("p 5 0;l 2;");
+        y.deed(0, 0);
+        due("19: act 0", y.nearer(1, 1), 1);
         due("19: LATE stays", x.now(4), 10);
         due("19: n 0", x.nearer(0, 0), BAD);
         due("19: n 31", x.nearer(31, 0), BAD);
@@ -773,6 +783,13 @@ public final class PromisesTest {
         due("27: nobody", x.together(0), 6);
         due("27: one who never was", x.together(7), 0);
         due("27: bits of none", x.together(8), BAD);
+        SquareLate y = told("p 5 0;p 5 1;");
+        y.day();
+        y.die(0);
+        y.day();
+        due("26: DAY 0 is the first", y.days(0, 1), 0);
+        due("26: DAY 0 is the last", y.days(0, 2), 0);
+        due("26: today is none", y.days(1, 2), 1);
         due("26: what 3", x.days(0, 3), BAD);
         due("26: person 3", x.days(3, 0), BAD);
         for (int far : FAR) {
@@ -845,6 +862,29 @@ public final class PromisesTest {
             due("30: image " + far, x.back(far), BAD);
         }
         due("30: none was kept", told("").back(0), STATE);
+        imagesKeepDeedsAndDays();
+    }
+
+    /** What an IMAGE has is its own: other DEEDS and DAYS afterwards do not come into it. */
+    private static void imagesKeepDeedsAndDays() {
+        SquareLate x = told("p 5 0;p 6 1;l 1;");
+        x.deed(0, 2);
+        x.day();
+        x.keep(0);
+        x.undo();
+        x.undo();
+        x.deed(1, 7);
+        x.die(0);
+        x.day();
+        x.keep(1);
+        x.back(0);
+        due("30: who did it", x.done(0, 0), 0);
+        due("30: which act", x.done(0, 1), 2);
+        due("30: who was KEPT", x.votes(1), 3);
+        x.back(1);
+        due("30: who else did it", x.done(0, 0), 1);
+        due("30: which other act", x.done(0, 1), 7);
+        due("30: who else was KEPT", x.votes(1), 2);
     }
 
     private static void count() {

@@ -1,43 +1,5 @@
 /** For each promise: ordinary inputs, the edges that the document names, and wrong inputs. */
-public final class PromisesTest {
-    private static final int BAD = -1, STATE = -2, FULL = -3, NONE = -9, NO = -1000000;
-    private static final int ALL_CELLS = (1 << 25) - 1;
-    private static final int[] FAR = {Integer.MIN_VALUE, -1000, -1, 1000, Integer.MAX_VALUE};
-
-    private static int wrong = 0;
-
-    private static void due(String what, long got, long want) {
-        if (got != want) {
-            wrong++;
-            System.out.println(what + " answered " + got + ", due is " + want);
-        }
-    }
-
-    private static void write(SquareLate x, String text) {
-        for (int i = 0; i < text.length(); i++) {
-            x.type(text.charAt(i));
-        }
-    }
-
-    private static SquareLate told(String text) {
-        SquareLate x = new SquareLate();
-        write(x, text);
-        if (x.square() < 0) {
-            due("square() of " + text, x.square(), 0);
-        }
-        return x;
-    }
-
-    private static void pass(SquareLate x, int days) {
-        for (int i = 0; i < days; i++) {
-            x.day();
-        }
-    }
-
-    private static String times(String text, int n) {
-        return text.repeat(n);
-    }
-
+public final class PromisesTest extends Checks {
     public static void main(String[] args) {
         newObject();
         typeAndClear();
@@ -71,10 +33,7 @@ public final class PromisesTest {
         images();
         count();
         trace();
-        System.out.println(wrong == 0 ? "all answers are as due" : wrong + " answers are not as due");
-        if (wrong != 0) {
-            System.exit(1);
-        }
+        end();
     }
 
     private static void newObject() {
@@ -142,11 +101,11 @@ public final class PromisesTest {
         items("l 30;", 1);
         items("c 99;", 1);
         items("r 7 6;", 1);
-        items(times("p 1 0;", 6), 6);
+        items("p 1 0;".repeat(6), 6);
         items("c0;c1;c2;c3;c4;c5;c6;c7;", 8);
-        items(times("r0 1;", 6), 6);
-        items(times("p 1 0;", 6) + "l1;c0;c1;c2;c3;c4;c5;c6;c7;" + times("r1 0;", 6), 21);
-        items(times(" ", 194) + "p 1 0;", 1);
+        items("r0 1;".repeat(6), 6);
+        items("p 1 0;".repeat(6) + "l1;c0;c1;c2;c3;c4;c5;c6;c7;" + "r1 0;".repeat(6), 21);
+        items(" ".repeat(194) + "p 1 0;", 1);
     }
 
     private static void faults() {
@@ -156,7 +115,7 @@ public final class PromisesTest {
         fault("p 1 0", 5);
         fault("p 1 0  ", 7);
         fault("p 1 0;l", 7);
-        fault(times(" ", 199) + "p", 200);
+        fault(" ".repeat(199) + "p", 200);
         fault(";", 0);
         fault("5", 0);
         fault("  7;", 2);
@@ -192,7 +151,7 @@ public final class PromisesTest {
         fault("p 1 100;", 4);
         fault("c 100;", 2);
         fault("c 4294967296;", 2);
-        fault("c " + times("9", 150) + ";", 2);
+        fault("c " + "9".repeat(150) + ";", 2);
         fault("c 1 00;", 4);
         fault("l 0;", 2);
         fault("l 31;", 2);
@@ -203,9 +162,9 @@ public final class PromisesTest {
         fault("r 8 0;", 2);
         fault("r 0 8;", 4);
         fault("r 3 3;", 4);
-        fault(times("r0 1;", 6) + "r2 3;", 30);
-        fault(times("p1 0;", 6) + "  p1 0;", 32);
-        fault(times("p1 0;", 6) + "p", 30);
+        fault("r0 1;".repeat(6) + "r2 3;", 30);
+        fault("p1 0;".repeat(6) + "  p1 0;", 32);
+        fault("p1 0;".repeat(6) + "p", 30);
         fault("p 1 0;p 1 99;", 10);
         fault("p 1 99;A", 4);
     }

@@ -32,6 +32,7 @@ public final class SightsBoundsTest extends Checks {
         ofAHeight();
         daysOfOne();
         theFirstAndTheLast();
+        onDayZeroAlone();
         neverKept();
         bitsTogether();
         onHowManyDays();
@@ -431,6 +432,18 @@ public final class SightsBoundsTest extends Checks {
         }
     }
 
+    private static void onDayZeroAlone() {
+        says("on how many DAYS that went by he was KEPT; the first, the last");
+        SquareLate x = told("p 1 0;");
+        x.day();
+        x.die(0);
+        pass(x, 98);
+        int[] due = {1, 0, 0};
+        for (int what = 0; what < 3; what++) {
+            due("days(0, " + what + ")", x.days(0, what), due[what]);
+        }
+    }
+
     private static void neverKept() {
         says("he was KEPT; the first, the last; NONE");
         SquareLate x = told("p 1 0;p 1 5;p 1 25;");
@@ -442,6 +455,15 @@ public final class SightsBoundsTest extends Checks {
             due("hidden or away, how many", x.days(p, 0), 0);
             due("hidden or away, the first", x.days(p, 1), NONE);
             due("hidden or away, the last", x.days(p, 2), NONE);
+        }
+        undo(x, 3);
+        int[] undone = {0, NONE, NONE};
+        for (int what = 0; what < 3; what++) {
+            due("all days undone, " + what, x.days(0, what), undone[what]);
+        }
+        pass(x, 99);
+        for (int what = 0; what < 3; what++) {
+            due("never in 99 days, " + what, x.days(2, what), undone[what]);
         }
     }
 

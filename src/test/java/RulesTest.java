@@ -1,3 +1,4 @@
+import java.lang.reflect.Array;
 import java.lang.reflect.Constructor;
 import java.lang.reflect.Field;
 import java.lang.reflect.Method;
@@ -5,6 +6,8 @@ import java.lang.reflect.Modifier;
 import java.nio.file.Files;
 import java.nio.file.Path;
 import java.util.Arrays;
+import java.util.IdentityHashMap;
+import java.util.Map;
 import java.util.Set;
 import java.util.TreeSet;
 import java.util.regex.Matcher;
@@ -32,6 +35,7 @@ public final class RulesTest {
     public static void main(String[] args) throws Exception {
         face();
         insides();
+        room();
         source(Files.readString(Path.of(SOURCE)));
         System.out.println(wrong == 0 ? "all rules are kept" : wrong + " rules are not kept");
         if (wrong != 0) {
@@ -90,6 +94,56 @@ public final class RulesTest {
         }
     }
 
+    /** All calls of one run live in one room, so an object is small, and 512 calls leave it as large as it was. */
+    private static void room() throws Exception {
+        SquareLate town = new SquareLate();
+        int first = size(town, new IdentityHashMap<>());
+        for (char c : "p 5 7; p 9 12; c 1; r 0 1;".toCharArray()) {
+            town.type(c);
+        }
+        town.square();
+        for (int i = 0; i < 40; i++) {
+            town.walk(0, i % 26);
+            town.deed(1, i % 8);
+            town.smoke(i % 25, 1);
+            town.day();
+            town.keep(i % 2);
+            town.mark(i % 6, 0);
+            town.holder(i % 8, i);
+            town.hide(1, 2, 1);
+            town.blocks(0, 1);
+        }
+        Map<Object, Object> all = new IdentityHashMap<>();
+        int last = size(town, all);
+        must(all.size() <= 50, "few objects: " + all.size());
+        must(last <= 1100, "few fields and elements: " + last);
+        must(first == last, "as large as it was: " + first + ", then " + last);
+    }
+
+    /** How many fields and elements an object and all that it holds have. */
+    private static int size(Object it, Map<Object, Object> met) throws Exception {
+        if (it == null || met.put(it, it) != null) {
+            return 0;
+        }
+        int found = 0;
+        if (it.getClass().isArray()) {
+            found = Array.getLength(it);
+            for (int i = 0; i < Array.getLength(it) && it instanceof Object[]; i++) {
+                found += size(Array.get(it, i), met);
+            }
+            return found;
+        }
+        for (Class<?> each = it.getClass(); each != Object.class; each = each.getSuperclass()) {
+            for (Field field : each.getDeclaredFields()) {
+                if (!Modifier.isStatic(field.getModifiers())) {
+                    field.setAccessible(true);
+                    found += 1 + (field.getType().isPrimitive() ? 0 : size(field.get(it), met));
+                }
+            }
+        }
+        return found;
+    }
+
     private static void source(String text) {
         must(text.chars().allMatch(c -> c == '\n' || c >= 32 && c < 127), "plain signs");
         String code = text.replaceAll("(?s)/\\*.*?\\*/", "").replaceAll("//[^\n]*", "");
@@ -103,6 +157,8 @@ public final class RulesTest {
         }
         int length = 0;
         for (String line : code.split("\n")) {
+            boolean made = Pattern.compile("\\bnew\\b").matcher(line).find();
+            must(!made || line.matches(" +(private )?final .*|        new Plain\\(\\), .*"), "no call makes objects: " + line);
             length = line.matches("\\s*}") && line.length() <= 9 ? 0 : length + 1;
             must(length <= 60 || line.startsWith("    private") || line.isBlank(), "short methods: " + line);
         }
